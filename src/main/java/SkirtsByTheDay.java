@@ -1574,7 +1574,7 @@ public final class SkirtsByTheDay {
                 tally[all] = 0;
             }
             for (int k = 0; k < size; k++) {
-                for (int all = laws[k]; all <= laws[k] + mostHem; all++) {
+                for (int all = laws[k]; all <= laws[k] + mostHem && all <= MOST_ALL; all++) {
                     tally[all]++;
                 }
             }
@@ -1652,8 +1652,9 @@ public final class SkirtsByTheDay {
 
         int cheapestStep(House house, int length, int all, int v) {
             int sewn = house.sewingFor(length, all, v);
-            if (sewn <= 1) {
-                return later[all - v] + priced(house, 0, sewn);
+            int rest = all - v;
+            if (sewn <= 1 && rest >= 0 && rest <= MOST_TERM) {
+                return later[rest] + priced(house, 0, sewn);
             }
             int least = 0;
             for (int hem = 0; hem <= house.mostHem(); hem++) {
@@ -1701,7 +1702,11 @@ public final class SkirtsByTheDay {
         }
 
         int costWith(House house, int used, int cloth) {
-            return house.costOf(cloth, laws[Integer.bitCount(used)]) + leastCosts[used | 1 << cloth];
+            int dressed = Integer.bitCount(used);
+            if (!house.hasCloth(cloth) || dressed >= size) {
+                return 0;
+            }
+            return house.costOf(cloth, laws[dressed]) + leastCosts[used | 1 << cloth];
         }
 
         int firstCheapest(House house, int used) {
@@ -1853,6 +1858,9 @@ public final class SkirtsByTheDay {
         }
 
         int lateWith(int done, int start, int job) {
+            if (job < 0 || job >= jobs) {
+                return 0;
+            }
             return Math.max(0, start + hours[job] - dues[job]) + leastLate[done | 1 << job];
         }
 

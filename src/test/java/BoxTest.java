@@ -6,6 +6,7 @@ public final class BoxTest {
         patches();
         leastBits();
         patchesOfTwenty();
+        longestPieces();
         quilt();
         Check.finish("BoxTest");
     }
@@ -101,6 +102,28 @@ public final class BoxTest {
         found(x, 198, 3, 1, 1 << 19 | 6);
     }
 
+    /** No piece is longer than 108. */
+    private static void longestPieces() {
+        SkirtsByTheDay x = Check.told("", "c99+9;c99+9;c99+9;c99+9;c99+9;c99+9;c99+9;c99+9", "");
+        x.set(0, 0);
+        x.make(0, 0);
+        found(x, 1, 1, 107, 1);
+        found(x, 108, 1, 0, 1);
+        for (int c = 1; c < 8; c++) {
+            x.make(c, 0);
+        }
+        found(x, 109, 2, 107, 3);
+        found(x, 757, 8, 107, 255);
+        found(x, 864, 8, 0, 255);
+        for (int c = 0; c < 4; c++) {
+            x.make(c, 99);
+            x.make(c, 0);
+        }
+        found(x, 864, 8, 0, 255);
+        found(x, 865, 9, 5 * 108 + 4 * 99 - 865, 3840 + 31);
+        found(x, 999, 10, 6 * 108 + 4 * 99 - 999, 3840 + 63);
+    }
+
     private static void quilt() {
         SkirtsByTheDay x = boxOf(5, 3, 9, 5);
         x.set(2, 4);
@@ -120,6 +143,10 @@ public final class BoxTest {
         Check.due("the last", x.piece(0), 3);
         Check.due("both can be undone", x.count(9), undone + 2 > 12 ? 12 : undone + 2);
         x.undo();
+        x.undo();
+        x.make(0, 99);
+        x.undo();
+        Check.due("quilt(14) behind a make() that bought", x.quilt(14), 4);
         x.undo();
         Check.due("they are back", x.count(5), 22);
         Check.due("the purse too", x.count(6), purse);

@@ -124,6 +124,7 @@ public final class HouseTest {
         Check.due("one of people", Check.text(x, "p05@3").house(), 1);
         Check.due("two lines more", Check.text(x, "c0;p99@0").house(), 2);
         Check.due("and one", Check.text(x, "c07+9").house(), 1);
+        Check.due("a hem of 0", Check.text(new SkirtsByTheDay(), "c07+0").house(), 1);
         Check.due("THE TEXT is empty then", x.count(11), 0);
         Check.due("people", x.count(1), 2);
         Check.due("cloths", x.count(2), 2);
@@ -190,7 +191,7 @@ public final class HouseTest {
         SkirtsByTheDay x = new SkirtsByTheDay();
         Check.due("76 signs that end too early", Check.text(x, seventySix).house(), -77);
         String full = people + Check.times("c12+3;", 5) + "c12+3;c1+1";
-        Check.due("76 signs in all", full.length() == 76 ? 76 : full.length(), 76);
+        Check.due("76 signs in all", full.length(), 76);
         Check.due("they come", Check.text(new SkirtsByTheDay(), full).house(), 13);
         Check.due("77 signs that could end at 76", Check.text(x, full + ";").house(), -77);
         Check.due("80 signs that could go on at 76", Check.text(x, seventySix + "1;;;").house(), -77);

@@ -48,6 +48,10 @@ public final class SeenTest {
         Check.due("fines(-1)", x.fines(-1), -1);
         Check.row("they leave the row", x, 22);
         x.forget();
+        x.seen(0, 0, 0, 24);
+        Check.due("the first is off", x.fines(5), 10);
+        Check.row("the first is off", x, 1);
+        x.forget();
         Check.due("fines(9) of nothing", x.fines(9), 0);
         Check.row("fines(9) of nothing", x, 0);
     }

@@ -14,6 +14,7 @@ public final class WeeksTest {
         wrongYears();
         longYears();
         undo();
+        undoOfOthers();
         undoTwelve();
         undoForgotten();
         undoAsOne();
@@ -164,6 +165,8 @@ public final class WeeksTest {
         Check.due("where 1 is", x.person(1, 1), 3);
         Check.due("cloth 2", x.cloth(2, 0), 5);
         Check.due("cloth 0", x.cloth(0, 0), 30);
+        Check.due("a year that costs nothing behind one that does", Check.text(x, "g00").year(), 1);
+        Check.row("it costs nothing", x, 0, 0);
         Check.due("k9", Check.text(x, "k9").year(), 1);
         Check.due("NOW", x.count(3), 13);
         Check.due("a digit too many for weeks", Check.text(x, "k10").year(), -3);
@@ -271,6 +274,22 @@ public final class WeeksTest {
         Check.due("undo() of wear()", x.undo(), 0);
         Check.due("what 0 wears", x.person(0, 2), -1);
         Check.due("undo() of nothing again", x.undo(), -1);
+    }
+
+    private static void undoOfOthers() {
+        SkirtsByTheDay x = family();
+        x.go(0, 2);
+        x.make(0, 40);
+        x.make(0, 50);
+        x.go(0, 3);
+        x.make(0, 60);
+        Check.due("seams", x.cloth(0, 3), 3);
+        x.undo();
+        Check.due("seams are as they were", x.cloth(0, 3), 2);
+        Check.due("the place is not", x.person(0, 1), 3);
+        x.undo();
+        Check.due("the place is as it was", x.person(0, 1), 2);
+        Check.due("the other's stays", x.person(1, 1), 1);
     }
 
     private static void undoTwelve() {

@@ -48,6 +48,13 @@ public final class WeeksToComeTest {
         x.week();
         Check.due("longest(0, 0, 60)", x.longest(0, 0, 60), 45);
         Check.row("longest(0, 0, 60)", x, 1, 15, 3);
+        Check.due("longest(0, 0, 4)", x.longest(0, 0, 4), 45);
+        Check.row("longest(0, 0, 4)", x, 1, 15, 3);
+        Check.due("longest(1, 2, 2)", x.longest(1, 2, 2), 0);
+        x.weeks(2);
+        Check.due("longest(0, 0, 2)", x.longest(0, 0, 2), 30);
+        Check.row("longest(0, 0, 2)", x, 0, 15, 1);
+        x.undo();
         Check.due("longest(0, 0, 1)", x.longest(0, 0, 1), 35);
         Check.row("longest(0, 0, 1)", x, 0, 35, 0);
         Check.due("longest(1, 0, 3)", x.longest(1, 0, 3), 9);

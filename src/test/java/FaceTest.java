@@ -1,0 +1,117 @@
+import java.io.IOException;
+import java.lang.reflect.Field;
+import java.lang.reflect.Method;
+import java.lang.reflect.Modifier;
+import java.nio.file.Files;
+import java.nio.file.Path;
+import java.util.ArrayList;
+import java.util.HashSet;
+import java.util.List;
+import java.util.Set;
+import java.util.TreeSet;
+import java.util.regex.Matcher;
+import java.util.regex.Pattern;
+
+/** The face is the document's and no more; the rules of LANGUAGE.md that can be seen from outside or by a word. */
+public final class FaceTest {
+    private static final Class<?> FACE = SkirtsByTheDay.class;
+
+    public static void main(String[] args) throws IOException {
+        calls(Files.readString(Path.of("../shared/DOC.md")));
+        members();
+        inside();
+        words(Files.readString(Path.of("src/main/java/SkirtsByTheDay.java")));
+        Check.finish("FaceTest");
+    }
+
+    private static void none(String what, boolean there) {
+        Check.due(what, there, false);
+    }
+
+    /** Each public line of the document's face is a method of the class, and there is no other. */
+    private static void calls(String document) {
+        Set<String> due = new TreeSet<>();
+        Matcher m = Pattern.compile("public (int|boolean) (\\w+)\\(([^)]*)\\)( throws \\w+)?;").matcher(document);
+        while (m.find()) {
+            int parameters = m.group(3).isEmpty() ? 0 : m.group(3).split(",").length;
+            due.add(m.group(1) + " " + m.group(2) + " " + parameters + (m.group(4) == null ? "" : " throws"));
+        }
+        Set<String> there = new TreeSet<>();
+        for (Method method : FACE.getDeclaredMethods()) {
+            if (Modifier.isPublic(method.getModifiers())) {
+                there.add(method.getReturnType() + " " + method.getName() + " " + method.getParameterCount()
+                    + (method.getExceptionTypes().length == 0 ? "" : " throws"));
+            }
+        }
+        Check.due("calls of the face", due.size(), 51);
+        if (!due.equals(there)) {
+            System.out.println("due: " + due + ", there: " + there);
+        }
+        Check.due("the face is the document's", due.equals(there), true);
+    }
+
+    private static void members() {
+        Check.due("the class is public and final", FACE.getModifiers(), Modifier.PUBLIC | Modifier.FINAL);
+        Check.due("one constructor", FACE.getDeclaredConstructors().length, 1);
+        Set<String> open = new HashSet<>();
+        for (Method method : FACE.getDeclaredMethods()) {
+            if (Modifier.isPublic(method.getModifiers())) {
+                open.add(method.getName());
+            }
+        }
+        for (Method method : FACE.getDeclaredMethods()) {
+            boolean isOpen = Modifier.isPublic(method.getModifiers());
+            none("neither public nor private: " + method, !isOpen && !Modifier.isPrivate(method.getModifiers()));
+            none("private with a public name: " + method, !isOpen && open.contains(method.getName()));
+        }
+        for (Field field : FACE.getDeclaredFields()) {
+            boolean isNone = field.getName().equals("NONE");
+            none("a field that is not private: " + field, !isNone && !Modifier.isPrivate(field.getModifiers()));
+        }
+    }
+
+    private static void inside() {
+        List<Class<?>> classes = new ArrayList<>(List.of(FACE.getDeclaredClasses()));
+        none("more than twelve classes", classes.size() + 1 > 12);
+        for (Class<?> one : classes) {
+            none("not static: " + one, !Modifier.isStatic(one.getModifiers()));
+            none("public or protected: " + one,
+                Modifier.isPublic(one.getModifiers()) || Modifier.isProtected(one.getModifiers()));
+        }
+        classes.add(FACE);
+        for (Class<?> one : classes) {
+            int fields = 0;
+            for (Field field : one.getDeclaredFields()) {
+                boolean isStatic = Modifier.isStatic(field.getModifiers());
+                none("static and not final: " + field, isStatic && !Modifier.isFinal(field.getModifiers()));
+                fields += isStatic ? 0 : 1;
+            }
+            none("more than twenty fields: " + one, fields > 20);
+            for (Method method : one.getDeclaredMethods()) {
+                none("more than seven parameters: " + method, method.getParameterCount() > 7);
+            }
+        }
+    }
+
+    private static void words(String source) {
+        String[] ruledOut = {"->", "::", "\\btry\\b", "\\bcatch\\b", "\\bfinally\\b", "\\bsynchronized\\b", "\\bassert\\b",
+            "Exact\\(", "\\bdouble\\b", "\\bfloat\\b", "\\bSystem\\.(?!arraycopy)", "\\bpackage\\b", "\\bThread\\b",
+            "\\bRandom\\b", "\\bObject\\b", "\\bString\\b", "\\bstatic \\{", "import (?!java\\.util\\.NoSuchElementException;)",
+            "throw new (?!NoSuchElementException\\(\")", "[^\\x00-\\x7f]"};
+        for (String word : ruledOut) {
+            none("in the source: " + word, Pattern.compile(word).matcher(source).find());
+        }
+        int begun = 0;
+        String[] lines = source.split("\n");
+        for (int k = 0; k < lines.length; k++) {
+            none("a long line, " + (k + 1), lines[k].length() > 120);
+            if (lines[k].matches("    (    )?\\w[^=;]*\\) (throws \\w+ )?\\{")) {
+                begun = k;
+            }
+            if (lines[k].matches("    (    )?\\}")) {
+                none("a long method, line " + (begun + 1), k - begun > 60);
+                begun = k;
+            }
+        }
+    }
+}

@@ -221,6 +221,10 @@ public final class HouseEdgesTest {
         BUSY.emptied("house()", "p001@0", -3, o -> o.house());
         BUSY.emptied("house()", "p@0", -2, o -> o.house());
         BUSY.emptied("house()", "p-1@0", -2, o -> o.house());
+        BUSY.emptied("house()", "p/@0", -2, o -> o.house());
+        BUSY.emptied("house()", "p:@0", -2, o -> o.house());
+        BUSY.emptied("house()", "p1/@0", -3, o -> o.house());
+        BUSY.emptied("house()", "p1:@0", -3, o -> o.house());
     }
 
     /** The PLACE where one is, 0 .. 3, whether there is one or not. */
@@ -268,6 +272,12 @@ public final class HouseEdgesTest {
         BUSY.emptied("house()", "c+1", -2, o -> o.house());
         BUSY.emptied("house()", "c1+10", -5, o -> o.house());
         BUSY.emptied("house()", "c1+-", -4, o -> o.house());
+        BUSY.emptied("house()", "c1+/", -4, o -> o.house());
+        BUSY.emptied("house()", "c1+:", -4, o -> o.house());
+        BUSY.emptied("house()", "c/", -2, o -> o.house());
+        BUSY.emptied("house()", "c:", -2, o -> o.house());
+        BUSY.emptied("house()", "c1/", -3, o -> o.house());
+        BUSY.emptied("house()", "c1:", -3, o -> o.house());
         BUSY.emptied("house()", "c1+1+1", -5, o -> o.house());
     }
 
@@ -377,6 +387,10 @@ public final class HouseEdgesTest {
         BUSY.emptied("rule()", "1h", -2, o -> o.rule());
         BUSY.emptied("rule()", "a", -1, o -> o.rule());
         BUSY.emptied("rule()", "H", -1, o -> o.rule());
+        BUSY.emptied("rule()", ":", -1, o -> o.rule());
+        BUSY.emptied("rule()", "/", -1, o -> o.rule());
+        BUSY.emptied("rule()", "1+:", -3, o -> o.rule());
+        BUSY.emptied("rule()", "1:", -2, o -> o.rule());
     }
 
     /** At most 4 in one another. */
@@ -406,6 +420,9 @@ public final class HouseEdgesTest {
         value("1+1=2", 1);
         value("2=1+1", 1);
         value("1+(1=2)", 1);
+        value("5+(5<5)", 5);
+        value("5+(5>5)", 5);
+        value("5+(5<6)", 6);
         value("(4<5)<2", 1);
         value("4<(5<2)", 0);
         value("0-1<0", 1);
@@ -482,6 +499,7 @@ public final class HouseEdgesTest {
         value(Check.times("1+", 19) + "10", 29);
         value(Check.times("0+", 18) + "(37)", 37);
         value(Check.times("-", 38) + "37", 37);
+        value("-i" + Check.times("+i", 19), 36);
         BUSY.emptied("rule()", Check.times("1+", 19) + "100", -41, o -> o.rule());
         BUSY.emptied("rule()", Check.times("1+", 19) + "10+", -41, o -> o.rule());
         BUSY.emptied("rule()", Check.times("1+", 19) + "10x", -41, o -> o.rule());

@@ -29,6 +29,7 @@ public final class KeptEdgesTest {
         hired();
         draw();
         drawnPlaces();
+        drawnPlacesOfMostWeeks();
         drawnNumbers();
         keep();
         again();
@@ -36,7 +37,8 @@ public final class KeptEdgesTest {
         againWhenSomeCame();
         count();
         row();
-        rowOfRefusedCalls();
+        questions();
+        rowOfCallsThatTellNone();
         Check.finish("KeptEdgesTest");
     }
 
@@ -222,9 +224,20 @@ public final class KeptEdgesTest {
         seven.refused("an eighth job of no hours", o -> o.job(0, 0));
         seven.refused("an eighth job in hour 100", o -> o.job(1, 100));
         SkirtsByTheDay x = seven(20, 0);
+        x.late();
+        x.timely();
+        x.hired(3);
         x.rest();
         Check.due("a job when they are done with", x.job(1, 0), 1);
         Check.due("late() of it alone", x.late(), 1);
+        Check.row("late() of it alone", x, 0);
+        x.job(2, 9);
+        Check.due("late() of two", x.late(), 1);
+        Check.row("late() of two", x, 0, 1);
+        Check.due("timely() of two", x.timely(), 1);
+        Check.row("timely() of two", x, 2);
+        Check.due("hired(3) of two", x.hired(3), 2);
+        Check.row("hired(3) of two", x, 0, 1);
     }
 
     private static void rest() {
@@ -351,6 +364,19 @@ public final class KeptEdgesTest {
         y.draw(1, 1, 5);
         Check.due("the others stay", y.light(0, 2) * 10 + y.light(2, 9), 93);
         Check.due("what can be undone stays", y.count(9), 12);
+    }
+
+    /** As many WEEKS as there can be, of one PLACE: those of the others stay. */
+    private static void drawnPlacesOfMostWeeks() {
+        for (int place = 0; place < 4; place++) {
+            SkirtsByTheDay x = Check.told("1/22/333/4444", "", "");
+            Check.due("draw(9, " + place + ", 26)", x.draw(9, place, 26), 4);
+            for (int other = 0; other < 4; other++) {
+                for (int week = 0; week < 27 && other != place; week++) {
+                    Check.due("light(" + other + ", " + week + ")", x.light(other, week), other + 1);
+                }
+            }
+        }
     }
 
     /** As ints, without sign: seeds at the ends of what there is. */
@@ -490,8 +516,47 @@ public final class KeptEdgesTest {
         Check.none("row(0) of an empty one", () -> x.row(0));
     }
 
+    /** Questions change nothing, however many are asked. */
+    private static void questions() {
+        BUSY.asked("all questions", 1, o -> {
+            for (int what = 0; what <= 4; what++) {
+                o.person(1, what);
+                o.cloth(2, what);
+            }
+            o.light(2, 77);
+            o.law(1, 1, 77);
+            o.piece(2);
+            o.patches(20);
+            o.ahead(60);
+            o.longest(0, 0, 60);
+            o.lengths(0, 0, 60);
+            o.serves(0, 0, 60);
+            o.best(0, 60);
+            o.same(9);
+            o.plan(0, 20);
+            o.plain(0, 20, 2);
+            o.idle();
+            o.nearest(1);
+            o.dress(3);
+            o.fines(9);
+            o.lags();
+            o.heights(1);
+            o.late();
+            o.timely();
+            o.hired(3);
+            o.count(5);
+            o.row(0);
+            return o.ready();
+        }, 1);
+        BUSY.read("way() and trunk()", "0123", 1, o -> {
+            o.way(0);
+            Check.text(o, "3210").trunk(1);
+            return o.ready();
+        }, 1);
+    }
+
     /** A call that tells no ROW, though it is done, leaves it. */
-    private static void rowOfRefusedCalls() {
+    private static void rowOfCallsThatTellNone() {
         SkirtsByTheDay x = Twins.busy();
         x.wear(0, 2);
         x.go(0, 1);

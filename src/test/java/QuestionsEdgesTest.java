@@ -20,6 +20,7 @@ public final class QuestionsEdgesTest {
         same();
         plan();
         planUpToMostHem();
+        planOfTheMostHem();
         planOfEqualCosts();
         plain();
         idle();
@@ -228,6 +229,17 @@ public final class QuestionsEdgesTest {
         planned("123", 5, 3, 15 * 2 + 1 + 3, 15, 0);
         planned("123", 4, 3, 15 * 2 + 3 + 3, 15, 0);
         planned("000", 9, 20, 0, 0, 0);
+    }
+
+    /** Taken in by 9, which is MOST HEM, it can't be taken in more: it is CUT. */
+    private static void planOfTheMostHem() {
+        Twins twins = new Twins(() -> {
+            SkirtsByTheDay x = Check.told("1", "p50@0", "20-w*9");
+            x.set(0, 9);
+            return x;
+        });
+        twins.asked("plan(0, 2) of 20, 11", 20 * 2 + 1, o -> o.plan(0, 2), 20, 0);
+        twins.asked("plan(0, 3) of 20, 11, 2", 20 * 2 + 1 + 2, o -> o.plan(0, 3), 20, 0);
     }
 
     /** Of as cheap ones the fewest inches, of these the least HEM. */

@@ -69,6 +69,19 @@ final class Twins {
         same(call + " of " + text, x, y, false);
     }
 
+    /** The call is done; when it is undone, all is as it was, but for the ROW and THE TEXT. */
+    void undone(String call, Call made) {
+        SkirtsByTheDay x = maker.made();
+        SkirtsByTheDay y = maker.made();
+        int before = y.count(9);
+        made.answer(x);
+        Check.due(call + ", what can be undone", x.count(9), before + 1);
+        Check.due(call + ", undo()", x.undo(), before);
+        x.end(0);
+        y.end(0);
+        same(call + " and undo()", x, y, false);
+    }
+
     private static void same(String call, SkirtsByTheDay x, SkirtsByTheDay y, boolean withRow) {
         List<String> got = allOf(x, withRow);
         List<String> want = allOf(y, withRow);
@@ -218,6 +231,16 @@ final class Twins {
         x.set(2, 2);
         x.ahead(2);
         return Check.text(x, "12/3");
+    }
+
+    /** A little has been done, so that what is done next pushes out nothing. */
+    static SkirtsByTheDay calm() {
+        SkirtsByTheDay x = Check.told("5796/55/3", "p50@0;p40@1;c25+2;c30;c10+3", "");
+        x.wear(0, 0);
+        x.wear(1, 1);
+        x.week();
+        x.make(2, 0);
+        return x;
     }
 
     /** Six of PEOPLE, eight CLOTHS, four PLACES: no room for one more. */

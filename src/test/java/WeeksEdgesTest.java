@@ -33,6 +33,7 @@ public final class WeeksEdgesTest {
         yearAsOne();
         undoOfTwelve();
         undoOfThirteen();
+        undoOfEach();
         undoOfNothing();
         undoForgotten();
         piece();
@@ -354,6 +355,8 @@ public final class WeeksEdgesTest {
         stops("w2-");
         stops("w99");
         stays("w-0", 1);
+        stays("w/0", 1);
+        stays("w:0", 1);
         stays("w0:", 2);
         stays("w0/", 2);
         stays("w00-", 3);
@@ -369,6 +372,9 @@ public final class WeeksEdgesTest {
         stops("g93");
         stays("g04", 2);
         stays("g0-", 2);
+        stays("g0/", 2);
+        stays("g/0", 1);
+        stays("g:0", 1);
         stays("g-0", 1);
         stays("g000", 3);
     }
@@ -388,6 +394,12 @@ public final class WeeksEdgesTest {
         stays("m0=-", 3);
         stays("m05", 2);
         stays("m=5", 1);
+        stays("m/=5", 1);
+        stays("m:=5", 1);
+        stays("m0=/", 3);
+        stays("m0=:", 3);
+        stays("m0=1/", 4);
+        stays("m0=1:", 4);
     }
 
     /** They are done one by one, till one can't be. */
@@ -493,6 +505,32 @@ public final class WeeksEdgesTest {
             x.undo();
         }
         Check.due("where it went the 18th time", x.person(0, 1), 17 % 4);
+    }
+
+    /** All that can be undone: NOW, who wears what and is where, CLOTHS, THE BOX, THE PURSE are as ahead of it. */
+    private static void undoOfEach() {
+        Twins calm = new Twins(Twins::calm);
+        calm.undone("wear(0, 2)", o -> o.wear(0, 2));
+        calm.undone("wear(0, 0), which it wears", o -> o.wear(0, 0));
+        calm.undone("wear(1, NONE)", o -> o.wear(1, -1));
+        calm.undone("go(0, 3)", o -> o.go(0, 3));
+        calm.undone("go(0, 0), where it is", o -> o.go(0, 0));
+        calm.undone("make(0, 99), joined", o -> o.make(0, 99));
+        calm.undone("make(0, 27), let out", o -> o.make(0, 27));
+        calm.undone("make(0, 0), CUT", o -> o.make(0, 0));
+        calm.undone("make(0, 25), as long as it is", o -> o.make(0, 25));
+        calm.undone("week()", o -> o.week());
+        calm.undone("weeks(1)", o -> o.weeks(1));
+        calm.undone("weeks(60)", o -> o.weeks(60));
+        calm.undone("year()", o -> Check.text(o, "w0-;w10;g03;m1=99;k9;m0=0;k").year());
+        calm.undone("year() that stops", o -> Check.text(o, "k9;m2=99;w22;k").year());
+        calm.undone("sell(0, 9)", o -> o.sell(0, 9));
+        calm.undone("sell(1, 0)", o -> o.sell(1, 0));
+        calm.undone("quilt(1)", o -> o.quilt(1));
+        calm.undone("quilt(17)", o -> o.quilt(17));
+        FULL.undone("weeks(60) of six", o -> o.weeks(60));
+        calm.undone("wear() behind refused ones", o -> o.wear(0, 9) + o.go(0, 9) + o.make(0, -1) + o.weeks(0)
+            + o.sell(2, 0) + o.quilt(18) + o.wear(0, 2));
     }
 
     private static void undoOfNothing() {

@@ -165,6 +165,18 @@ public final class QuestionsEdgesTest {
         none.asked("best() of LAW 0", 0, o -> o.best(0, 60), 60);
         Twins long99 = new Twins(() -> Check.told("1", "p10@0", "99"));
         long99.asked("best() of LAW 99", 99, o -> o.best(0, 60), 60);
+        Twins long1 = new Twins(() -> Check.told("1", "p10@0", ""));
+        long1.asked("best() of LAW 1", 1, o -> o.best(0, 60), 60);
+        long1.asked("lengths() of LAW 1", 1, o -> o.lengths(0, 0, 60), 1, 60);
+        // ALL of 108 serves LAW 99 as well; asked twice it is no better
+        SkirtsByTheDay most = Check.told("1", "p10@0", "99");
+        most.set(0, 9);
+        for (int k = 0; k < 3; k++) {
+            Check.due("best() of LAW 99, MOST HEM 9", most.best(0, 60), 99);
+            Check.row("best() of LAW 99, MOST HEM 9", most, 60);
+            Check.due("lengths() of LAW 99", most.lengths(0, 0, 60), 1);
+            Check.row("lengths() of LAW 99", most, 99, 60);
+        }
         SkirtsByTheDay x = Check.told("09", "p10@0", "90+l");
         x.set(0, 9);
         Check.due("90 and 99 are MOST HEM from one another", x.best(0, 2), 99);

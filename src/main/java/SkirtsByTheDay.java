@@ -43,8 +43,8 @@ public final class SkirtsByTheDay {
         text = new Text();
         almanacs = new Almanacs();
         rule = new Rule();
-        box = new Box();
-        house = new House(box);
+        house = new House();
+        box = house.box;
         history = new History();
         acts = new Year();
         wants = new Wants();
@@ -65,7 +65,7 @@ public final class SkirtsByTheDay {
 
     public int almanac() {
         text.open(MOST_SIGNS);
-        return closeText(almanacs.readFrom(text));
+        return closeText(almanacs.readPlaces(text));
     }
 
     public int house() {
@@ -79,7 +79,7 @@ public final class SkirtsByTheDay {
 
     public int rule() {
         text.open(RULE_SIGNS);
-        return closeText(rule.readFrom(text));
+        return closeText(rule.readRule(text));
     }
 
     public int person(int person, int what) throws NoSuchElementException {
@@ -202,8 +202,22 @@ public final class SkirtsByTheDay {
 
     public int year() {
         text.open(YEAR_SIGNS);
-        int toDo = text.isEmpty() ? 0 : acts.readFrom(text);
-        return toDo < 0 ? closeText(toDo) : goThroughYear(toDo);
+        int toDo = closeText(text.isEmpty() ? 0 : acts.readActs(text));
+        if (toDo < 0) {
+            return toDo;
+        }
+        history.mark(house);
+        house.startBill();
+        int done = 0;
+        while (done < toDo && doAct(acts.kinds[done], acts.firsts[done], acts.seconds[done])) {
+            done++;
+        }
+        // Marked first and committed last: a year of which nothing was done must not push out the oldest.
+        if (done > 0) {
+            history.commit();
+        }
+        told.tell(done < toDo ? 1 : 0, house.payBill());
+        return done;
     }
 
     public int undo() {
@@ -211,7 +225,7 @@ public final class SkirtsByTheDay {
             return NONE;
         }
         history.takeBack();
-        history.returnTo(house);
+        history.bringBack(house);
         return history.size;
     }
 
@@ -264,7 +278,7 @@ public final class SkirtsByTheDay {
         history.mark(house);
         house.startBill();
         passWeeks(n);
-        history.returnTo(house);
+        history.bringBack(house);
         tellBill();
         return house.billCost();
     }
@@ -552,7 +566,7 @@ public final class SkirtsByTheDay {
         if (!history.hasKept(i, house)) {
             return false;
         }
-        history.returnToKept(i, house);
+        history.bringBackKept(i, house);
         history.clear();
         return true;
     }
@@ -640,7 +654,7 @@ public final class SkirtsByTheDay {
     }
 
     private int lawNow(int person) {
-        return lawAt(person, house.places[person], house.now);
+        return lawFor(house.heights[person], person, house.places[person], house.now);
     }
 
     private boolean isLawful(int person) {
@@ -673,22 +687,6 @@ public final class SkirtsByTheDay {
             }
             house.now++;
         }
-    }
-
-    private int goThroughYear(int toDo) {
-        text.length = 0;
-        history.mark(house);
-        house.startBill();
-        int done = 0;
-        while (done < toDo && doAct(acts.kinds[done], acts.firsts[done], acts.seconds[done])) {
-            done++;
-        }
-        // Marked first and committed last: a year of which nothing was done must not push out the oldest.
-        if (done > 0) {
-            history.commit();
-        }
-        told.tell(done < toDo ? 1 : 0, house.payBill());
-        return done;
     }
 
     private boolean doAct(int kind, int first, int second) {
@@ -871,7 +869,7 @@ public final class SkirtsByTheDay {
             return lights[place * ALMANAC_WEEKS + week % weeks[place]];
         }
 
-        int readFrom(Text text) {
+        int readPlaces(Text text) {
             for (int place = 0; place < MOST_PLACES; place++) {
                 draftWeeks[place] = readDigits(text, place * ALMANAC_WEEKS);
                 if (draftWeeks[place] < 1) {
@@ -940,7 +938,7 @@ public final class SkirtsByTheDay {
         final int[] draftRights = new int[RULE_SIGNS];
         int drafted;
 
-        int readFrom(Text text) {
+        int readRule(Text text) {
             drafted = 0;
             if (!text.isEmpty() && (readExpression(text, 0) == NONE || !text.isAtEnd())) {
                 return NONE;
@@ -1104,15 +1102,14 @@ public final class SkirtsByTheDay {
         final int[] hems = new int[MOST_CLOTHS];
         final int[] seams = new int[MOST_CLOTHS];
         final int[] terms = new int[TERMS];
-        final Box box;
+        final Box box = new Box();
         int purse;
         int now;
         int bought;
         int sewing;
         int fallen;
 
-        House(Box itsBox) {
-            box = itsBox;
+        House() {
             terms[0] = 3;
             terms[1] = 2;
             terms[2] = 1;
@@ -1284,7 +1281,7 @@ public final class SkirtsByTheDay {
             moment[at + 2] = now;
         }
 
-        void readFrom(int[] moment) {
+        void returnTo(int[] moment) {
             if (moment.length < MOMENT) {
                 return;
             }
@@ -1438,8 +1435,8 @@ public final class SkirtsByTheDay {
             size--;
         }
 
-        void returnTo(House house) {
-            house.readFrom(moments[freeSlot()]);
+        void bringBack(House house) {
+            house.returnTo(moments[freeSlot()]);
         }
 
         void clear() {
@@ -1460,8 +1457,8 @@ public final class SkirtsByTheDay {
             return i >= 0 && i < MOST_KEPT && keptPeople[i] == house.people && keptCloths[i] == house.cloths;
         }
 
-        void returnToKept(int i, House house) {
-            house.readFrom(kept[i]);
+        void bringBackKept(int i, House house) {
+            house.returnTo(kept[i]);
         }
     }
 
@@ -1473,7 +1470,7 @@ public final class SkirtsByTheDay {
         final int[] firsts = new int[MOST_ACTS];
         final int[] seconds = new int[MOST_ACTS];
 
-        int readFrom(Text text) {
+        int readActs(Text text) {
             for (int act = 0; act < MOST_ACTS; act++) {
                 if (!readAct(text, act)) {
                     return NONE;

@@ -6,6 +6,7 @@ public final class BoxTest {
         patches();
         leastBits();
         patchesOfTwenty();
+        choicesByChance();
         longestPieces();
         quilt();
         Check.finish("BoxTest");
@@ -100,6 +101,39 @@ public final class BoxTest {
         found(x, 99, 1, 0, 1 << 19);
         found(x, 150, 3, 0, 14);
         found(x, 198, 3, 1, 1 << 19 | 6);
+    }
+
+    /** Many pieces, more than ModelTest has, against all choices of them. */
+    private static void choicesByChance() {
+        for (int run = 0; run < 12; run++) {
+            java.util.Random random = new java.util.Random(run);
+            int[] inches = new int[12 + random.nextInt(9)];
+            int longest = run % 3 == 0 ? 6 : run % 3 == 1 ? 30 : 99;
+            for (int i = 0; i < inches.length; i++) {
+                inches[i] = 1 + random.nextInt(longest);
+            }
+            int[] sums = new int[1 << inches.length];
+            for (int bits = 1; bits < sums.length; bits++) {
+                sums[bits] = sums[bits & bits - 1] + inches[Integer.numberOfTrailingZeros(bits)];
+            }
+            SkirtsByTheDay x = boxOf(inches);
+            for (int k = 0; k < 10; k++) {
+                int v = 1 + random.nextInt(Math.min(999, sums[sums.length - 1]));
+                int best = bestOf(sums, v);
+                found(x, v, Integer.bitCount(best), sums[best] - v, best);
+            }
+        }
+    }
+
+    private static int bestOf(int[] sums, int v) {
+        int best = sums.length - 1;
+        for (int bits = sums.length - 1; bits > 0; bits--) {
+            int fewer = Integer.bitCount(best) - Integer.bitCount(bits);
+            if (sums[bits] >= v && (fewer > 0 || fewer == 0 && sums[bits] <= sums[best])) {
+                best = bits;
+            }
+        }
+        return best;
     }
 
     /** No piece is longer than 108. */

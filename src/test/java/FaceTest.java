@@ -7,7 +7,9 @@ import java.nio.file.Path;
 import java.util.ArrayList;
 import java.util.HashSet;
 import java.util.List;
+import java.util.Map;
 import java.util.Set;
+import java.util.TreeMap;
 import java.util.TreeSet;
 import java.util.regex.Matcher;
 import java.util.regex.Pattern;
@@ -17,10 +19,12 @@ public final class FaceTest {
     private static final Class<?> FACE = SkirtsByTheDay.class;
 
     public static void main(String[] args) throws IOException {
+        String source = Files.readString(Path.of("src/main/java/SkirtsByTheDay.java"));
         calls(Files.readString(Path.of("../shared/DOC.md")));
         members();
         inside();
-        words(Files.readString(Path.of("src/main/java/SkirtsByTheDay.java")));
+        words(source);
+        depths(source);
         Check.finish("FaceTest");
     }
 
@@ -113,5 +117,61 @@ public final class FaceTest {
                 begun = k;
             }
         }
+    }
+
+    /**
+     * Calls that are no recursion go at most eight deep, the face's own call counted. Methods are told apart by their
+     * names alone: those of one name count as one, which can only make it deeper.
+     */
+    private static void depths(String source) {
+        Map<String, Set<String>> calls = callsByName(source);
+        for (String name : calls.keySet()) {
+            none(name + " goes deeper than eight", depth(name, calls, new HashSet<>()) > 8);
+        }
+        Check.due("the deepest call of year()", depth("year", calls, new HashSet<>()), 7);
+        Check.due("rule() reads by recursion", reaches("readExpression", "readExpression", calls, new HashSet<>()), true);
+    }
+
+    private static Map<String, Set<String>> callsByName(String source) {
+        Pattern begin = Pattern.compile("    (?:    )?(?:(?:public|private|static) )*[\\w\\[\\]]+ (\\w+)\\([^)]*\\)(?: throws \\w+)? \\{");
+        Pattern call = Pattern.compile("(\\w+)\\(");
+        Map<String, Set<String>> calls = new TreeMap<>();
+        Set<String> own = new HashSet<>();
+        for (String line : source.split("\n")) {
+            Matcher m = begin.matcher(line);
+            if (m.matches()) {
+                own = calls.computeIfAbsent(m.group(1), name -> new TreeSet<>());
+                continue;
+            }
+            for (Matcher c = call.matcher(line); c.find();) {
+                own.add(c.group(1));
+            }
+        }
+        for (Set<String> called : calls.values()) {
+            called.retainAll(calls.keySet());
+        }
+        return calls;
+    }
+
+    /** A method that comes back to itself is recursion: it counts nothing, what it calls does. */
+    private static int depth(String name, Map<String, Set<String>> calls, Set<String> open) {
+        if (!open.add(name)) {
+            return 0;
+        }
+        int deepest = 0;
+        for (String called : calls.get(name)) {
+            deepest = Math.max(deepest, depth(called, calls, open));
+        }
+        open.remove(name);
+        return deepest + (reaches(name, name, calls, new HashSet<>()) ? 0 : 1);
+    }
+
+    private static boolean reaches(String from, String to, Map<String, Set<String>> calls, Set<String> been) {
+        for (String called : calls.get(from)) {
+            if (called.equals(to) || been.add(called) && reaches(called, to, calls, been)) {
+                return true;
+            }
+        }
+        return false;
     }
 }

@@ -24,6 +24,7 @@ public final class FaceTest {
         members();
         inside();
         words(source);
+        constructors(source);
         depths(source);
         Check.finish("FaceTest");
     }
@@ -119,6 +120,15 @@ public final class FaceTest {
         }
     }
 
+    /** A constructor hands on nothing of the object that it makes: none takes anything. */
+    private static void constructors(String source) {
+        Matcher m = Pattern.compile("\\bnew (\\w+)\\(([^)]*)\\)").matcher(source);
+        while (m.find()) {
+            boolean thrown = m.group(1).endsWith("Exception");
+            none("made of something: " + m.group(), !thrown && !m.group(2).isEmpty());
+        }
+    }
+
     /**
      * Calls that are no recursion go at most eight deep, the face's own call counted. Methods are told apart by their
      * names alone: those of one name count as one, which can only make it deeper.
@@ -133,7 +143,8 @@ public final class FaceTest {
     }
 
     private static Map<String, Set<String>> callsByName(String source) {
-        Pattern begin = Pattern.compile("    (?:    )?(?:(?:public|private|static) )*[\\w\\[\\]]+ (\\w+)\\([^)]*\\)(?: throws \\w+)? \\{");
+        Pattern begin = Pattern.compile("    (?:    )?(?:(?:public|private|static) )*\\w+ (\\w+)\\([^)]*\\)"
+            + "(?: throws \\w+)? \\{");
         Pattern call = Pattern.compile("(\\w+)\\(");
         Map<String, Set<String>> calls = new TreeMap<>();
         Set<String> own = new HashSet<>();

@@ -927,13 +927,13 @@ public final class SkirtsByTheDay {
         static final char NUMBER = '0';
         static final char NEGATED = '~';
 
-        final char[] kinds = new char[RULE_SIGNS];
+        final int[] kinds = new int[RULE_SIGNS];
         final int[] lefts = new int[RULE_SIGNS];
         final int[] rights = new int[RULE_SIGNS];
         final int[] values = new int[RULE_SIGNS];
         int size;
 
-        final char[] draftKinds = new char[RULE_SIGNS];
+        final int[] draftKinds = new int[RULE_SIGNS];
         final int[] draftLefts = new int[RULE_SIGNS];
         final int[] draftRights = new int[RULE_SIGNS];
         int drafted;
@@ -950,7 +950,7 @@ public final class SkirtsByTheDay {
             return 0;
         }
 
-        int addPart(char kind, int left, int right) {
+        int addPart(int kind, int left, int right) {
             // Each part stands for a sign at least, so that there is always room.
             if (drafted >= RULE_SIGNS) {
                 return NONE;
@@ -970,7 +970,7 @@ public final class SkirtsByTheDay {
             }
             text.at++;
             int right = readSum(text, depth);
-            return right == NONE ? NONE : addPart((char) sign, left, right);
+            return right == NONE ? NONE : addPart(sign, left, right);
         }
 
         int readSum(Text text, int depth) {
@@ -982,7 +982,7 @@ public final class SkirtsByTheDay {
                 }
                 text.at++;
                 int right = readProduct(text, depth);
-                left = right == NONE ? NONE : addPart((char) sign, left, right);
+                left = right == NONE ? NONE : addPart(sign, left, right);
             }
             return left;
         }
@@ -996,7 +996,7 @@ public final class SkirtsByTheDay {
                 }
                 text.at++;
                 int right = readSigned(text, depth);
-                left = right == NONE ? NONE : addPart((char) sign, left, right);
+                left = right == NONE ? NONE : addPart(sign, left, right);
             }
             return left;
         }
@@ -1022,7 +1022,7 @@ public final class SkirtsByTheDay {
                 return NONE;
             }
             text.at++;
-            return addPart((char) sign, 0, 0);
+            return addPart(sign, 0, 0);
         }
 
         int readInner(Text text, int depth) {
@@ -1066,7 +1066,7 @@ public final class SkirtsByTheDay {
             return values[size - 1];
         }
 
-        static int joined(char kind, int left, int right) {
+        static int joined(int kind, int left, int right) {
             switch (kind) {
                 case '+':
                     return left + right;

@@ -25,6 +25,7 @@ public final class FaceTest {
         inside();
         words(source);
         constructors(source);
+        copies(source);
         depths(source);
         Check.finish("FaceTest");
     }
@@ -127,6 +128,20 @@ public final class FaceTest {
             boolean thrown = m.group(1).endsWith("Exception");
             none("made of something: " + m.group(), !thrown && !m.group(2).isEmpty());
         }
+    }
+
+    /** Only rows of ints are copied. */
+    private static void copies(String source) {
+        Matcher m = Pattern.compile("arraycopy\\((?:\\w+\\.)?(\\w+), [^,]+, (?:\\w+\\.)?(\\w+),").matcher(source);
+        int copied = 0;
+        while (m.find()) {
+            for (int k = 1; k <= 2; k++) {
+                none("copied, and no int[]: " + m.group(k), !source.contains("int[] " + m.group(k)));
+                none("copied, and a char[]: " + m.group(k), source.contains("char[] " + m.group(k)));
+            }
+            copied++;
+        }
+        Check.due("copies looked at", copied, source.split("arraycopy").length - 1);
     }
 
     /**
